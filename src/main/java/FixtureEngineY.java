@@ -26,8 +26,8 @@ public final class FixtureEngineY {
     private static final int NO_ANSWER = -1;
     private static final int NOT_ALIVE = -1;
 
-    // Widths that hold every value of a field of a sort key; a parameter value
-    // is kept as param + 1, so that -1 (outside the closure) is 0 and sorts first.
+    // Widths that hold every value there is. A parameter value is kept as param + 1,
+    // so that -1 (outside the closure) is 0: what no run has assigned, and first in the order.
     private static final int PARAM_BITS = 2;
     private static final int PARAM_MASK = 3;
     private static final int MODULE_BITS = 2;
@@ -160,7 +160,7 @@ public final class FixtureEngineY {
 
     public int itemParam(int item, int f) {
         // A fixture defined after the run needs no check of its own: its bits are still 0, which reads -1.
-        return isItem(item) && isFixture(f) ? paramOf(item, f) : NO_ANSWER;
+        return isItem(item) && isFixture(f) ? paramIn(paramsOfItem[item], f) : NO_ANSWER;
     }
 
     public int itemOutcome(int item) {
@@ -190,8 +190,8 @@ public final class FixtureEngineY {
         return f * MAX_PARAMS + param;
     }
 
-    private static int paramBits(int params, int f) {
-        return (params >> (f * PARAM_BITS)) & PARAM_MASK;
+    private static int paramIn(int params, int f) {
+        return ((params >> (f * PARAM_BITS)) & PARAM_MASK) - 1;
     }
 
     private boolean isFixture(int f) {
@@ -204,10 +204,6 @@ public final class FixtureEngineY {
 
     private int valueCount(int f) {
         return paramCountOf[f] >= 1 ? paramCountOf[f] : 1;
-    }
-
-    private int paramOf(int item, int f) {
-        return paramBits(paramsOfItem[item], f) - 1;
     }
 
     private int closureOf(int t) {
@@ -284,7 +280,7 @@ public final class FixtureEngineY {
         long longer = key;
         for (int f = 0; f < fixtures; f++) {
             if (scopeOf[f] == scope && paramCountOf[f] >= 1) {
-                longer = (longer << PARAM_BITS) | paramBits(params, f);
+                longer = (longer << PARAM_BITS) | (paramIn(params, f) + 1);
             }
         }
         return longer;
@@ -329,7 +325,7 @@ public final class FixtureEngineY {
 
     private boolean setUpItem(int item) {
         for (int f = 0; f < fixtures; f++) {
-            int param = paramOf(item, f);
+            int param = paramIn(paramsOfItem[item], f);
             if (param >= 0 && aliveParam[f] != param && !setUpFixture(item, f, param)) {
                 return false;
             }
@@ -380,7 +376,7 @@ public final class FixtureEngineY {
         if (scopeOf[g] == SCOPE_FUNCTION || next >= items) {
             return true;
         }
-        int wanted = paramOf(next, g);
+        int wanted = paramIn(paramsOfItem[next], g);
         if (wanted >= 0 && wanted != aliveParam[g]) {
             return true;
         }
