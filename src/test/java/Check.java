@@ -1,8 +1,9 @@
 /** Counts the answers that are not the ones due, and ends the program with exit code 1 if there was one. */
 final class Check {
     static final int[] ODD_INTS = {
-        Integer.MIN_VALUE, Integer.MIN_VALUE + 1, -100000, -17, -2, -1, 0, 1, 2, 3, 4, 5, 11, 12, 13, 15, 16, 17,
-        31, 32, 33, 63, 64, 65, 255, 256, 257, 100000, Integer.MAX_VALUE - 1, Integer.MAX_VALUE
+        Integer.MIN_VALUE, Integer.MIN_VALUE + 1, -(1 << 30), -100000, -17, -2, -1, 0, 1, 2, 3, 4, 5, 11, 12, 13, 15,
+        16, 17, 31, 32, 33, 63, 64, 65, 255, 256, 257, 1 << 16, 100000, 1 << 28, 1 << 30, Integer.MAX_VALUE - 1,
+        Integer.MAX_VALUE
     };
 
     private int made;

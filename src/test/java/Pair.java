@@ -40,18 +40,34 @@ final class Pair {
         return want;
     }
 
+    void itemTest(int item) {
+        due("itemTest(" + item + ")", engine.itemTest(item), model.itemTest(item));
+    }
+
+    void itemParam(int item, int f) {
+        due("itemParam(" + item + ", " + f + ")", engine.itemParam(item, f), model.itemParam(item, f));
+    }
+
+    void itemOutcome(int item) {
+        due("itemOutcome(" + item + ")", engine.itemOutcome(item), model.itemOutcome(item));
+    }
+
+    void event(int index) {
+        due("event(" + index + ")", engine.event(index), model.event(index));
+    }
+
     void compareResults() {
         due("itemCount()", engine.itemCount(), model.itemCount());
         due("eventCount()", engine.eventCount(), model.eventCount());
         for (int i = -1; i <= 65; i++) {
-            due("itemTest(" + i + ")", engine.itemTest(i), model.itemTest(i));
-            due("itemOutcome(" + i + ")", engine.itemOutcome(i), model.itemOutcome(i));
+            itemTest(i);
+            itemOutcome(i);
             for (int f = -1; f <= 13; f++) {
-                due("itemParam(" + i + ", " + f + ")", engine.itemParam(i, f), model.itemParam(i, f));
+                itemParam(i, f);
             }
         }
         for (int e = -1; e <= 257; e++) {
-            due("event(" + e + ")", engine.event(e), model.event(e));
+            event(e);
         }
     }
 
