@@ -7,7 +7,9 @@ import java.nio.file.Files;
 import java.nio.file.Path;
 import java.util.ArrayDeque;
 import java.util.Deque;
+import java.util.Map;
 import java.util.Set;
+import java.util.TreeMap;
 import java.util.TreeSet;
 import java.util.regex.Matcher;
 import java.util.regex.Pattern;
@@ -29,17 +31,23 @@ public final class LanguageTest {
         "int eventCount()", "int event(int)");
 
     private static final String[] BARRED = {
-        "package", "import", "throw", "throws", "try", "catch", "finally", "synchronized", "assert", "instanceof",
-        "null", "float", "double", "String", "Object", "Math", "Integer", "Long", "System", "Arrays", "interface",
-        "enum", "record", "protected", "volatile", "transient", "native", "var", "getClass", "hashCode", "equals",
-        "toString", "clone", "super"
+        "package", "import", "throw", "throws", "try", "catch", "synchronized", "assert", "instanceof", "null", "float",
+        "double", "String", "Object", "Math", "Integer", "Long", "System", "Arrays", "interface", "enum", "protected",
+        "getClass", "hashCode", "equals", "toString", "clone"
     };
 
     public static void main(String[] args) throws Exception {
+        String text = Files.readString(Path.of("src/main/java/FixtureEngineY.java"));
+        String code = text.replaceAll("//[^\n]*", "").replaceAll("(?s)/\\*.*?\\*/", "");
+        Map<String, String> bodies = bodies(code);
         publicFace();
         fields();
         methods();
-        source();
+        words(code);
+        arrays(code, bodies);
+        check.due("calls inside the arguments of another call", callsInsideCalls(code), "");
+        lengths(bodies);
+        depthOfCalls(bodies);
         check.finish();
     }
 
@@ -85,8 +93,6 @@ public final class LanguageTest {
             } else {
                 variables++;
                 check.due(field + " has a plain type", plain(type), true);
-                check.due(field + ", an array, is final",
-                    type.isArray() && !Modifier.isFinal(field.getModifiers()), false);
             }
         }
         check.due("at most forty fields", variables <= 40, true);
@@ -115,22 +121,37 @@ public final class LanguageTest {
         return element.isPrimitive() && element != float.class && element != double.class;
     }
 
-    private static void source() throws IOException {
-        String text = Files.readString(Path.of("src/main/java/FixtureEngineY.java"));
-        String code = text.replaceAll("//[^\n]*", "").replaceAll("(?s)/\\*.*?\\*/", "");
+    private static void words(String code) {
         for (String word : BARRED) {
             check.due("the code has the word " + word, Pattern.compile("\\b" + word + "\\b").matcher(code).find(), false);
         }
-        for (String sign : new String[] {"->", "::", "\"", "@"}) {
+        for (String sign : new String[] {"::", "\"", "@"}) {
             check.due("the code has the sign " + sign, code.contains(sign), false);
         }
         for (String line : code.split("\n")) {
-            if (line.contains("new ")) {
-                check.due("an array is made in a field's initialiser: " + line.trim(),
-                    line.matches(" {4}private final \\w+\\[\\] \\w+ = new \\w+\\[\\w+\\];"), true);
+            if (line.contains("->")) {
+                check.due("an arrow stands in a switch: " + line.trim(), line.matches("\\s*(case\\b.*|default)\\s*->.*"), true);
             }
         }
-        check.due("calls inside the arguments of another call", callsInsideCalls(code), "");
+    }
+
+    /** No method but the constructor makes an array or puts one into a field. */
+    private static void arrays(String code, Map<String, String> bodies) {
+        Matcher made = Pattern.compile("\\bnew\\b\\s*([^;]*);").matcher(code);
+        while (made.find()) {
+            check.due("a length that is a constant: " + made.group(), made.group(1).matches("\\w+\\[\\w+\\]"), true);
+        }
+        for (String name : bodies.keySet()) {
+            if (name.equals(engine.getSimpleName())) {
+                continue;
+            }
+            String body = bodies.get(name);
+            check.due(name + " makes an array", Pattern.compile("\\bnew\\b").matcher(body).find(), false);
+            for (Field field : engine.getDeclaredFields()) {
+                boolean assigns = Pattern.compile("\\b" + field.getName() + "\\s*=[^=]").matcher(body).find();
+                check.due(name + " assigns to " + field, field.getType().isArray() && assigns, false);
+            }
+        }
     }
 
     /** Names each call that stands between the brackets of another one. */
@@ -151,5 +172,61 @@ public final class LanguageTest {
             brackets.push(call);
         }
         return names.toString();
+    }
+
+    private static void lengths(Map<String, String> bodies) {
+        for (String name : bodies.keySet()) {
+            check.due(name + " is short", bodies.get(name).lines().count() <= 60, true);
+        }
+    }
+
+    private static void depthOfCalls(Map<String, String> bodies) {
+        Map<String, Integer> depths = new TreeMap<>();
+        for (String name : bodies.keySet()) {
+            depths.put(name, 1);
+        }
+        // Without recursion no depth can grow any more after as many rounds as there are methods.
+        boolean grown = true;
+        for (int round = 0; round <= bodies.size() && grown; round++) {
+            grown = false;
+            for (String caller : bodies.keySet()) {
+                int depth = deepestCalled(bodies.get(caller), depths) + 1;
+                grown |= depths.put(caller, depth) != depth;
+            }
+        }
+        check.due("there is recursion", grown, false);
+        for (String name : depths.keySet()) {
+            check.due(name + " calls at most six deep", depths.get(name) <= 6, true);
+        }
+    }
+
+    private static int deepestCalled(String body, Map<String, Integer> depths) {
+        int deepest = 0;
+        for (String name : depths.keySet()) {
+            if (Pattern.compile("\\b" + name + "\\s*\\(").matcher(body).find()) {
+                deepest = Math.max(deepest, depths.get(name));
+            }
+        }
+        return deepest;
+    }
+
+    /** What stands between the braces of each method and of the constructor, by name. */
+    private static Map<String, String> bodies(String code) {
+        Map<String, String> bodies = new TreeMap<>();
+        Matcher head = Pattern.compile("(\\w+)\\([^()]*\\)\\s*\\{").matcher(code);
+        int end = 0;
+        while (head.find(end)) {
+            int depth = 1;
+            for (end = head.end(); depth > 0; end++) {
+                depth += code.charAt(end) == '{' ? 1 : code.charAt(end) == '}' ? -1 : 0;
+            }
+            bodies.merge(head.group(1), code.substring(head.end(), end - 1), String::concat);
+        }
+        Set<String> names = new TreeSet<>(Set.of(engine.getSimpleName()));
+        for (Method method : engine.getDeclaredMethods()) {
+            names.add(method.getName());
+        }
+        check.due("the methods that are found", bodies.keySet(), names);
+        return bodies;
     }
 }

@@ -291,8 +291,8 @@ public final class Promise04SetFailureTest {
     /** "Nothing else changes". */
     private static void nothingElseChanges() {
         FixtureEngineY x = Scene.RUN.engine();
-        check.due("setFailure(2, 1, 9)", x.setFailure(2, 1, 9), true);
-        // Value 1 of fixture 2 is never tried nine times, so nothing can be seen of it.
+        check.due("setFailure(2, 0, 9)", x.setFailure(2, 0, 9), true);
+        // Value 0 of fixture 2 is never tried nine times, so nothing can be seen of it.
         check.due("all but the script", Probe.of(x).equals(Probe.of(Scene.RUN.engine())), true);
     }
 

@@ -20,8 +20,8 @@ public final class RefusedCallsTest {
             refusedOnesChangeNothing(scene, requestingFixtures());
             allRefusedOnesTogetherChangeNothing(scene);
         }
-        refusedRunsChangeNothing(Scene.REFUSED_AFTER_A_RUN);
-        refusedRunsChangeNothing(Scene.REFUSED_FIRST_RUN);
+        refusedRunsChangeNothing(Scene.TOO_LARGE);
+        refusedRunsChangeNothing(Scene.TOO_LARGE_AFTER_A_RUN);
         check.finish();
     }
 
