@@ -14,7 +14,7 @@ import java.util.TreeSet;
 import java.util.regex.Matcher;
 import java.util.regex.Pattern;
 
-/** The public face of the document, and those rules of LANGUAGE.md that can be seen without reading the code's sense. */
+/** The public face, and those rules of LANGUAGE.md that can be seen without reading the code's sense. */
 public final class LanguageTest {
     private static final Check check = new Check();
     private static final Class<?> engine = FixtureEngineY.class;
@@ -123,14 +123,16 @@ public final class LanguageTest {
 
     private static void words(String code) {
         for (String word : BARRED) {
-            check.due("the code has the word " + word, Pattern.compile("\\b" + word + "\\b").matcher(code).find(), false);
+            boolean found = Pattern.compile("\\b" + word + "\\b").matcher(code).find();
+            check.due("the code has the word " + word, found, false);
         }
         for (String sign : new String[] {"::", "\"", "@"}) {
             check.due("the code has the sign " + sign, code.contains(sign), false);
         }
         for (String line : code.split("\n")) {
             if (line.contains("->")) {
-                check.due("an arrow stands in a switch: " + line.trim(), line.matches("\\s*(case\\b.*|default)\\s*->.*"), true);
+                boolean inSwitch = line.matches("\\s*(case\\b.*|default)\\s*->.*");
+                check.due("an arrow stands in a switch: " + line.trim(), inSwitch, true);
             }
         }
     }

@@ -10,8 +10,8 @@ public final class ModelTest {
         for (int seed = 0; seed < 4000; seed++) {
             play(new RandomCalls(check, seed));
         }
-        System.out.println(taken + " runs taken, " + refused + " refused, " + overfull + " with a log over the capacity, "
-            + failing + " with an error");
+        System.out.println(taken + " runs taken, " + refused + " refused, "
+            + overfull + " with a log over the capacity, " + failing + " with an error");
         // Guards the test itself: each kind of run must come up often enough to mean something.
         check.due("many runs are taken", taken > 3000, true);
         check.due("many runs are refused", refused > 300, true);

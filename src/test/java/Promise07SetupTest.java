@@ -101,7 +101,8 @@ public final class Promise07SetupTest {
             }
             x.run();
             for (int i = 0; i < 5; i++) {
-                check.due("attempt " + attempt + ": itemOutcome(" + i + ")", x.itemOutcome(i), i + 1 == attempt ? 2 : 1);
+                check.due("attempt " + attempt + ": itemOutcome(" + i + ")",
+                    x.itemOutcome(i), i + 1 == attempt ? 2 : 1);
             }
         }
     }
